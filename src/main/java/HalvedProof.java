@@ -808,6 +808,7 @@ public final class HalvedProof {
         private final long[][] worth = new long[WITNESSES_OF_SUIT][CALL_DAYS];
         private final int[] room = new int[CALL_DAYS];
         private final long[] best = new long[PLANS];
+        private final long[] together = new long[PLANS];
         private final boolean[] wins = new boolean[PLANS];
         private final int[] planned = new int[WITNESSES_OF_SUIT];
         private int size;
@@ -899,24 +900,33 @@ public final class HalvedProof {
             best[0] = 0;
         }
 
-        /** Each round adds at most one speaker of that day to a plan, as greater sets are met first. */
+        /** Greater SETS are met first, so what they build on has not heard anybody on this day yet. */
         private void callOn(int day, int among) {
-            for (int round = 0; round < room[day] && round < size; round++) {
-                for (int set = among; set > 0; set = (set - 1) & among) {
-                    best[set] = Math.max(best[set], bestWithOneOn(day, set));
+            int able = addUp(day);
+            for (int set = among; set > 0; set = (set - 1) & among) {
+                for (int speakers = set & able; speakers > 0; speakers = (speakers - 1) & set & able) {
+                    long ahead = best[set & ~speakers];
+                    if (ahead >= 0 && Integer.bitCount(speakers) <= room[day]) {
+                        best[set] = Math.max(best[set], ahead + together[speakers]);
+                    }
                 }
             }
         }
 
-        private long bestWithOneOn(int day, int set) {
-            long most = IMPOSSIBLE;
+        /** Of all SETS what they add on a day, for callOn: who may speak then. */
+        private int addUp(int day) {
+            int able = 0;
+            together[0] = 0;
             for (int i = 0; i < size; i++) {
-                int others = set & ~(1 << i);
-                if (others != set && worth[i][day] >= 0 && best[others] >= 0) {
-                    most = Math.max(most, best[others] + worth[i][day]);
+                int one = 1 << i;
+                if (worth[i][day] >= 0) {
+                    able |= one;
+                }
+                for (int set = 0; set < one; set++) {
+                    together[set | one] = together[set] + worth[i][day];
                 }
             }
-            return most;
+            return room[day] > 0 ? able : 0;
         }
 
         private long greatest() {

@@ -119,6 +119,8 @@ public final class PromisesTest {
         courtIs("  5", -11, 2);
         courtIs("sui", -11, 0);
         courtIs("suits 5 5;", -11, 0);
+        courtIs("suita 5 5;", -11, 0);
+        courtIs("suitz 5 5;", -11, 0);
         courtIs("Suit 5 5;", -11, 0);
         courtIs("from 1 1 1 1;", -11, 0);
         courtIs("on", -11, 0);
@@ -771,6 +773,13 @@ public final class PromisesTest {
         planIs(x, "18, 12 and half of 18", 1, 1, 0);
         x = Check.made("suit 14 9;witness 0 6 sworn;witness 0 4 sworn;witness 0 6 sworn;", "from 0 1 9 1;from 1 1 9 2;");
         planIs(x, "18, 18 and half of 12", 1, 0, 1);
+        // 5.25 now: 9 and 12 with the 9 later are 35.25 / 2, less than 18; with the 12 later they are enough
+        x = Check.made("suit 6 9;witness 0 3 sworn;witness 0 4 sworn;witness 0 1 sworn;witness 0 3 sworn;", "from 0 1 60 1;");
+        x.say(2);
+        x.dusk(1);
+        x.say(3);
+        x.dusk(1);
+        planIs(x, "the later day is too little by a fraction", 0, 1, NONE, NONE);
     }
 
     // ---- 18
@@ -795,6 +804,13 @@ public final class PromisesTest {
         due("18: not within thirty days", x.cut(2), 32);
         x.dusk(9);
         due("18: FELL", x.cut(0), NOT);
+        x = Check.made("suit 90 399;suit 3 399 on 0;witness 1 3 sworn;", "from 0 1 31 6;");
+        x.say(0);
+        x.dusk(1);
+        due("18: it would be in thirty days", x.cut(1), 1);
+        x.begin();
+        x.dusk(399);
+        due("18: on day 399", x.cut(1), 1);
         x = Check.made("suit 4 9;witness 0 4 sworn;", "");
         x.say(0);
         due("18: WON", x.cut(0), NOT);
@@ -850,6 +866,10 @@ public final class PromisesTest {
         due("19: by the second", x.turns(0, 1), 1);
         x.dusk(1);
         due("19: 1.5 and 12", x.turns(0, 0), 0);
+        x = Check.made("suit 90 9;suit 5 9 on 0;witness 1 5 sworn;", "");
+        x.say(0);
+        due("19: just enough now", x.turns(1, 0), 1);
+        due("19: nobody to call", x.turns(1, 1), NONE);
         // a copy counts as today on all days
         x = Check.made("suit 5 9;witness 0 4 copied;witness 0 4 copied;witness 0 4 copied;", "from 0 3 9 2;from 1 0 9 2;");
         due("19: LAWS of later days are not looked at", x.turns(0, 0), 1);
