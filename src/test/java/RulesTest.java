@@ -21,7 +21,8 @@ public final class RulesTest {
             "plan int", "cut int", "turns int int", "many int", "write int int", "tear int", "judge int",
             "evening int int", "seed int", "keep int", "goBack int"));
     private static final String[] FORBIDDEN = {"throw", "throws", "try", "catch", "finally", "synchronized", "assert",
-            "package", "protected", "lambda", "volatile", "transient", "native", "Object", "System.out", "instanceof"};
+            "package", "protected", "native", "Object", "Thread", "Random", "System.out", "System.nanoTime"};
+    private static final Set<String> IMPORTS = Set.of("java.util.Arrays", "java.util.ArrayList", "java.util.List", "java.util.Iterator");
 
     public static void main(String[] args) throws Exception {
         face();
@@ -37,7 +38,7 @@ public final class RulesTest {
             }
             membersAreClosed(inner);
         }
-        CHECK.isTrue("twelve classes at most", HalvedProof.class.getDeclaredClasses().length < 12);
+        CHECK.isTrue("twelve classes at most", HalvedProof.class.getDeclaredClasses().length <= 12);
         words();
         CHECK.end();
     }
@@ -97,21 +98,18 @@ public final class RulesTest {
         for (String word : FORBIDDEN) {
             CHECK.isTrue("no " + word, !Pattern.compile("\\b" + Pattern.quote(word) + "\\b").matcher(code).find());
         }
-        CHECK.isTrue("no lambda, no method reference", !code.contains("->") && !code.contains("::"));
+        String cases = code.replaceAll("\\b(case [^:;{}]*|default *)->", "");
+        CHECK.isTrue("no lambda, no method reference", !cases.contains("->") && !cases.contains("::"));
         CHECK.isTrue("no texts joined by +", !Pattern.compile("TEXT\\s*\\+|\\+\\s*TEXT").matcher(code).find());
         Matcher imports = Pattern.compile("import ([^;]*);").matcher(code);
         while (imports.find()) {
-            CHECK.isTrue("import " + imports.group(1), imports.group(1).equals("java.util.Arrays"));
+            CHECK.isTrue("import " + imports.group(1), IMPORTS.contains(imports.group(1)));
         }
-        Matcher calls = Pattern.compile("\\b(Arrays|System|Math|Integer|Long)\\.(\\w+)").matcher(code);
-        Set<String> allowed = Set.of("Arrays.fill", "System.arraycopy", "Math.max", "Math.min", "Integer.bitCount");
+        Matcher calls = Pattern.compile("\\b(Arrays|System)\\.(\\w+)").matcher(code);
+        Set<String> allowed = Set.of("Arrays.fill", "Arrays.copyOf", "Arrays.copyOfRange", "System.arraycopy");
         while (calls.find()) {
             CHECK.isTrue(calls.group(), allowed.contains(calls.group()));
         }
-        // what a run makes is counted: rows and objects are made in constructors and field initialisers alone
-        for (String line : code.split("\n")) {
-            boolean inCall = line.startsWith("                ");
-            CHECK.isTrue("makes nothing: " + line.trim(), !inCall || !line.contains("new "));
-        }
+        CHECK.isTrue("nothing of the name ..Exact", !Pattern.compile("\\b(Math|Integer|Long)\\.\\w+Exact\\b").matcher(code).find());
     }
 }
