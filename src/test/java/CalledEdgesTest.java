@@ -485,7 +485,7 @@ public final class CalledEdgesTest {
         due("both by DAY 399", x.cut(1), 3);
     }
 
-    private static HalvedProof equals(int witnesses, int need) {
+    private static HalvedProof twelves(int witnesses, int need) {
         return Check.made("suit " + need + " 9;" + "witness 0 4 sworn;".repeat(witnesses), "from 0 1 9 1;");
     }
 
@@ -496,7 +496,7 @@ public final class CalledEdgesTest {
         for (int n = 0; n <= 6; n++) {
             for (int need = 1; need <= 8; need++) {
                 boolean is = reached[n] >= 3 * need;
-                HalvedProof x = equals(n, need);
+                HalvedProof x = twelves(n, need);
                 due(n + " of 12, NEED " + need, x.turns(0, 0), is ? 1 : 0);
                 due("BEST CALL of " + n + ", NEED " + need, x.turns(0, 1), is ? 0 : NONE);
             }
