@@ -83,7 +83,8 @@ public final class NaiveTest {
     private void tellCourt() {
         StringBuilder b = new StringBuilder();
         int suits = style == 0 ? 6 : 1 + below(4);
-        int each = style == 1 ? 6 : style == 2 ? 3 : 1 + below(4);
+        // two of each of six SUITS are the greatest COURT
+        int each = style == 1 ? 6 : style == 2 ? 3 : style == 0 && chance(50) ? 2 : 1 + below(4);
         int witnesses = 0;
         for (int s = 0; s < suits; s++) {
             int n = Math.min(each, 12 - witnesses);
